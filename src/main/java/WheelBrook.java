@@ -981,7 +981,7 @@ public final class WheelBrook {
         digits = 1;
         return true;
       }
-      if (digits == 0 || digits == MOST_DIGITS || size == 0) {
+      if (digits == 0 || digits >= MOST_DIGITS || size == 0) {
         return false;
       }
       code[size - 1] = code[size - 1] * 10 + d;
@@ -991,7 +991,7 @@ public final class WheelBrook {
 
     private boolean opens(int b, int use) {
       if (b == '!' || b == '(') {
-        if (open == MOST_OPEN) {
+        if (open >= MOST_OPEN) {
           return false;
         }
         open++;

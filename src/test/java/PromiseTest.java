@@ -238,6 +238,9 @@ public final class PromiseTest {
     one(41, 6, 3, 2, 0);
     one(55, 30, 20, 0, 40);
     one(60, 31, 15, 15, 15);
+    for (int kind = 0; kind < 7; kind++) {
+      one(10 * kind + 9, 0, 0, 0, 0);
+    }
     WheelBrook x = new WheelBrook();
     x.wheel(5, 0);
     x.set(0, 4, 0);
@@ -402,7 +405,10 @@ public final class PromiseTest {
       {"1+1<3", 1}, {"3<1+1", 0}, {"2*3=3+3", 1}, {"1<2=1", -13}, {"(1<2)=1", 1}, {"(3<2)=1", 0},
       {"1&2", 1}, {"1&0", 0}, {"0&1", 0}, {"0|0", 0}, {"0|9", 1}, {"9|0", 1}, {"4|2", 1},
       {"1|0&0", 1}, {"(1|0)&0", 0}, {"0&0|1", 1}, {"1=1&2=2", 1}, {"1=1&2=3", 0}, {"1=2|2=2", 1},
-      {"0&1|1&1", 1}, {"1|1=0", 1}, {"(1|1)=0", 0}, {"2+3&0", 0}, {"5-5|0", 0}, {"0-1<0", 1},
+      {"0&1|1&1", 1}, {"(4|2)+1", 2}, {"(0|0)+5", 5}, {"(0&1)+5", 5}, {"(2<1)+5", 5}, {"(2=1)+5", 5},
+      {"(1>2)+5", 5}, {"!1+5", 5}, {"(4&2)+1", 2}, {"(1)+(1)+(1)+(1)+(1)+(((((1)))))", 6},
+      {"(1)+(1)+(1)+((((((1))))))", -27}, {"!1+!1+!!!!!!1", -21}, {"!1+((((((1", -18},
+      {"!1+1+1+1+1+1+1+1+1+1+1+1+1+1+1+1+1+1+1+1+1+1+1+1+1+1+1+1+1+1", 29}, {"1|1=0", 1}, {"(1|1)=0", 0}, {"2+3&0", 0}, {"5-5|0", 0}, {"0-1<0", 1},
       {"f=99&m=5&p=7&h=0", 1}, {"(f=99)*p+!h*m", 12}, {"((((((1))))))", -15},
       {"(((((1)))))", 1}, {"!!!!!1", 0}, {"!!!!!!1", -15}, {"(!(!(1", -16}, {"(!(!(1)))", 1},
       {"(!(!(!1)))", -15}, {"((((!1))))", 0}, {"(1)+(2)+(3)+(4)+(5)+(6)", 21},
@@ -431,6 +437,15 @@ public final class PromiseTest {
     due(13, "the one ahead stays", x.wheelIs(0, 7), 24);
     due(13, "a fault", learn(x, 0, "7+m)"), -13);
     due(13, "the one ahead stays", x.wheelIs(0, 7), 24);
+    String[] faulty = {"!", "!!!!!", "(((((", "9*(", "9-", "12+345+", "((1)", "1|(", "12345"};
+    for (String fault : faulty) {
+      due(13, "a fault", learn(x, 0, fault) < -10 ? 1 : 0, 1);
+      due(13, "nothing is left of " + fault, learn(x, 0, "5"), 1);
+      due(13, "nothing is left of " + fault, x.wheelIs(0, 7), 5);
+      due(13, "a fault", learn(x, 0, fault) < -10 ? 1 : 0, 1);
+      due(13, "nothing is left of " + fault, learn(x, 0, "(((((7)))))+2"), 1);
+      due(13, "nothing is left of " + fault, x.wheelIs(0, 7), 9);
+    }
     x.weed(4, 9);
     due(13, "f behind the weed", learn(x, 0, "f"), 1);
     due(13, "f behind the weed", x.wheelIs(0, 7), 21);
@@ -525,6 +540,7 @@ public final class PromiseTest {
     WheelBrook x = new WheelBrook();
     due(16, "draws(0)", x.draws(0), BEYOND);
     due(16, "draws(61)", x.draws(61), BEYOND);
+    due(16, "draws(60)", new WheelBrook().draws(60), 4);
     due(17, "seed(0)", x.seed(0), 1);
     // each of these draws once: the rests of 0, 1 .. 15 by hand from z before
     int z = 0;
@@ -556,6 +572,9 @@ public final class PromiseTest {
       due(16, "turned of 0", x.wheelIs(0, 6), turned);
       if (i == 100) {
         x.frost(cold = 8);
+      }
+      if (i % 10 == 0 && i > 150) {
+        x.frost(cold = 9);
       }
     }
     for (int rest = 0; rest < 16; rest++) {
@@ -613,6 +632,10 @@ public final class PromiseTest {
     due(19, "fair(1, 4)", x.fair(1, 4), 40);
     due(19, "fair(4, 1)", x.fair(4, 1), -40);
     due(19, "fair(2, 3)", x.fair(2, 3), 0);
+    due(19, "fair(0, 1)", x.fair(0, 1), -24);
+    due(19, "fair(1, 0)", x.fair(1, 0), 24);
+    due(18, "sell(4, 0, 1)", x.sell(4, 0, 1), 1);
+    due(18, "sell(0, 4, 1)", x.sell(0, 4, 1), 1);
     due(19, "fair(0, 0)", x.fair(0, 0), BEYOND);
     due(19, "fair(-1, 0)", x.fair(-1, 0), BEYOND);
     due(19, "fair(0, -1)", x.fair(0, -1), BEYOND);
@@ -667,6 +690,7 @@ public final class PromiseTest {
     due(21, "thenFamily(0, 0, -1)", x.thenFamily(0, 0, -1), BEYOND);
     due(21, "thenFamily(0, 0, 4)", x.thenFamily(0, 0, 4), BEYOND);
     due(21, "thenFamily(240, 0, 1)", x.thenFamily(240, 0, 1), 2400);
+    due(21, "thenFamily(0, 4, 2)", x.thenFamily(0, 4, 2), 1);
     due(20, "nothing went by", x.count(1), 0);
     due(20, "nothing was prayed", x.count(6), 0);
     due(20, "nothing was counted", x.wheelIs(0, 5), 0);
@@ -686,6 +710,7 @@ public final class PromiseTest {
     due(22, "when(1, 240)", x.when(1, 240), NONE);
     x.owe(0, 2400);
     due(22, "when(0, 240)", x.when(0, 240), 240);
+    due(22, "when(4, 0)", x.when(4, 0), 0);
     due(22, "when(0, 241)", x.when(0, 241), BEYOND);
     due(22, "when(0, -1)", x.when(0, -1), BEYOND);
     due(22, "when(-1, 0)", x.when(-1, 0), BEYOND);
@@ -707,6 +732,10 @@ public final class PromiseTest {
     x.wheel(23, 10); // 3 an hour
     x.wheel(23, 10); // 3 an hour
     x.wheel(29, 10); // 9 an hour
+    x.owe(0, 0);
+    due(23, "no wheel is needed", x.sluices(6, 0), 0);
+    due(23, "no wheel is needed", x.sluices(6, 1), 0);
+    x.owe(0, 1);
     due(23, "the least as bits", x.sluices(1, 0), 2);
     due(23, "taken", x.sluices(1, 1), 3);
     x.set(1, 4, 0);
@@ -753,6 +782,8 @@ public final class PromiseTest {
     due(24, "one that frost stops", x.fewer(3, 0, 48), 0);
     due(24, "one that it does not", x.fewer(4, 0, 2), 8);
     due(24, "hidden", x.fewer(29, 4, 2), 2 * (10 - 7));
+    due(24, "fewer(69, 11, 1)", x.fewer(69, 11, 1), 0);
+    due(25, "bestPlace(69, 1)", x.bestPlace(69, 1), 0);
     due(24, "fewer(-1, 0, 1)", x.fewer(-1, 0, 1), BEYOND);
     due(24, "fewer(70, 0, 1)", x.fewer(70, 0, 1), BEYOND);
     due(24, "fewer(0, -1, 1)", x.fewer(0, -1, 1), BEYOND);
@@ -1172,6 +1203,15 @@ public final class PromiseTest {
     due(35, "image()", x.image(), 3);
     due(36, "restore()", x.restore(), 4);
     due(35, "in place of one ahead", x.count(8), 0);
+    WheelBrook y = new WheelBrook();
+    y.image();
+    y.wheel(5, 0);
+    y.hours(2);
+    due(36, "an image of the first", y.restore(), 0);
+    due(36, "no wheels", y.count(0), 0);
+    due(7, "a wheel again", y.wheel(5, 0), 0);
+    due(7, "its counter", y.wheelIs(0, 5), 0);
+    due(7, "how often it turned", y.wheelIs(0, 6), 0);
   }
 
   private static void tellAndCheck() {
