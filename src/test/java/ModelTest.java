@@ -27,11 +27,15 @@ public final class ModelTest {
   }
 
   public static void main(String[] args) {
+    int runs = args.length == 0 ? RUNS : Integer.parseInt(args[0]);
     int failed = 0;
-    for (int run = 0; run < RUNS && failed < 3; run++) {
-      failed += new ModelTest(run).failed() ? 1 : 0;
+    int answers = 0;
+    for (int run = 0; run < runs && failed < 3; run++) {
+      ModelTest test = new ModelTest(run);
+      failed += test.failed() ? 1 : 0;
+      answers += test.count;
     }
-    System.out.println("ModelTest: " + RUNS + " runs, " + failed + " wrong");
+    System.out.println("ModelTest: " + runs + " runs, " + answers + " answers, " + failed + " wrong");
     if (failed != 0) {
       System.exit(1);
     }

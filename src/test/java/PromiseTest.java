@@ -66,6 +66,7 @@ public final class PromiseTest {
     sluices();
     fewerAndBest();
     whoAndSlipped();
+    eight();
     voices();
     sheets();
     moves();
@@ -889,6 +890,43 @@ public final class PromiseTest {
     due(27, "slipped()", x.slipped(), 1 + 4 + 8 + 128);
   }
 
+  /** As many wheels as there may be, each of which takes its m. */
+  private static void eight() {
+    WheelBrook x = new WheelBrook();
+    x.force(0, 99);
+    x.force(1, 99);
+    for (int i = 0; i < 8; i++) {
+      x.wheel(21 + i, 10 * i + i % 5);
+    }
+    due(20, "then(1, 7, 6)", x.then(1, 7, 6), 8);
+    due(21, "thenFamily(1, 2, 1)", x.thenFamily(1, 2, 1), 3 + 8);
+    due(26, "who(63, 2)", x.who(63, 2), 255);
+    due(26, "who(99, 1)", x.who(99, 1), 0);
+    due(26, "who(98, 1)", x.who(98, 1), 1);
+    due(26, "who(91, 0)", x.who(91, 0), 6); // 8, 7 1, 6 2, 5 3, 5 2 1, 4 3 1
+    due(26, "who(91, 1)", x.who(91, 1), 1 + 4 + 8);
+    due(26, "who(91, 3)", x.who(91, 3), 255);
+    for (int family = 0; family < 5; family++) {
+      x.owe(family, 5);
+    }
+    due(23, "family 3 by one hour", x.sluices(1, 0), NONE);
+    x.owe(3, 4);
+    due(23, "sluices(1, 0)", x.sluices(1, 0), 8 + 16 + 32 + 64 + 128);
+    due(23, "sluices(1, 1)", x.sluices(1, 1), 4 + 5 + 6 + 7 + 8);
+    x.owe(0, 2);
+    due(23, "sluices(2, 0)", x.sluices(2, 0), 1 + 4 + 8 + 16 + 64);
+    due(23, "sluices(2, 1)", x.sluices(2, 1), 2 * (1 + 7 + 3 + 4 + 5));
+    due(35, "image()", x.image(), 1);
+    due(15, "hours(1)", x.hours(1), 36);
+    due(36, "restore()", x.restore(), 0);
+    due(36, "count(6)", x.count(6), 0);
+    x.seed(0);
+    for (int i = 0; i < 4; i++) {
+      due(16, "draws(60)", x.draws(60) > 0 ? 1 : 0, 1);
+    }
+    due(27, "slipped()", x.slipped(), 255);
+  }
+
   private static void spoken(WheelBrook x, int wheel, int voice, int at, int answer, int... trace) {
     String call = "voice(" + wheel + ", " + voice + ", " + at + ")";
     due(28, call, x.voice(wheel, voice, at), answer);
@@ -1104,6 +1142,9 @@ public final class PromiseTest {
     due(34, "not so any more", y.judge(1), 0);
     y.sheet(1, 8, 0);
     due(34, "no numbers", y.judge(1), 0);
+    y.sheet(1, 8, 5);
+    y.force(0, 0);
+    due(34, "nothing flows", y.judge(1), 5);
     due(34, "judge(-1)", y.judge(-1), BEYOND);
     due(34, "judge(4)", y.judge(4), BEYOND);
     due(34, "judge(3)", y.judge(3), NONE);
